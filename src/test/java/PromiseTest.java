@@ -405,6 +405,8 @@ public final class PromiseTest {
         due("11: residentPages()", x.residentPages(), 0);
         due("11: read(2, 3)", x.read(2, 3), 30);
         due("11: swapOut(1, 3) after a read", x.swapOut(1, 3), 4);
+        x.map(3, 7, 1);
+        due("11: swapOut(3, 7) of the last place", x.swapOut(3, 7), 1);
         refuseSwapOut(0, 0);
         refuseSwapOut(0, 4);
         refuseSwapOut(1, 1);
@@ -435,7 +437,6 @@ public final class PromiseTest {
         due("12: mappers(3, 7)", x.mappers(3, 7), 0x80808080);
         due("12: mappers(0, 0)", x.mappers(0, 0), 0x01010101);
         x.unmap(1, 7, 1);
-        x.move(2, 7, 1, 7);
         due("12: mappers(3, 7) without 1", x.mappers(3, 7), 0x80800080);
         x.write(3, 7, 0);
         due("12: mappers(3, 7) alone", x.mappers(3, 7), MIN);
