@@ -212,7 +212,9 @@ public final class ModelTest {
     }
 
     private static final int EXIT = 2;
+    private static final int MAP = 4;
     private static final int UNMAP = 5;
+    private static final int MOVE = 6;
     private static final int WRITE = 8;
 
     private static String text(int kind, int p, int a, int b, int c) {
@@ -255,9 +257,9 @@ public final class ModelTest {
 
     private static int nextKind(int run) {
         int kind = KINDS[next(KINDS.length)];
-        // Every second run seldom gives places up, so that it comes to as many pages as there can be.
-        boolean givesUp = kind == EXIT || kind == UNMAP;
-        return run % 2 == 0 && givesUp && next(40) != 0 ? WRITE : kind;
+        // Every second run keeps its places and fills the rest, to come near the most pages there can be.
+        boolean turns = kind == EXIT || kind == UNMAP || kind == MOVE;
+        return run % 2 == 0 && turns && next(40) != 0 ? (next(2) == 0 ? MAP : WRITE) : kind;
     }
 
     private static boolean runPasses(int run) {
