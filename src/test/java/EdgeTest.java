@@ -912,16 +912,17 @@ public final class EdgeTest {
     }
 
     private static void writeAloneAmongEveryPage() {
-        PageSharer x = bare();
-        for (int p = 0; p < 4; p++) {
-            x.map(p, 0, 8);
-        }
-        for (int place = 0; place < 32; place++) {
-            due("write of place " + place, x.write(place / 8, place % 8, 50 + place), true);
-        }
-        due("pages()", x.pages(), 32);
-        for (int place = 0; place < 32; place++) {
-            due("read of place " + place, x.read(place / 8, place % 8), 50 + place);
+        for (int written = 0; written < 32; written++) {
+            PageSharer x = bare();
+            for (int p = 0; p < 4; p++) {
+                x.map(p, 0, 8);
+            }
+            due("write of place " + written, x.write(written / 8, written % 8, 50), true);
+            due("pages()", x.pages(), 32);
+            for (int place = 0; place < 32; place++) {
+                due("read of place " + place, x.read(place / 8, place % 8), place == written ? 50 : 0);
+                due("mappers of place " + place, x.mappers(place / 8, place % 8), 1 << place);
+            }
         }
     }
 
